@@ -190,7 +190,7 @@ public final class DayTests {
         x.see(2, 20);
         x.plan(0, 5);
         x.book(0, 300);
-        Check.law(x, "spring 12 d>4;sun 3 l>8;sun 1 a<3;mark 35;floor 6;rate 4");
+        Check.law(x, "spring 12 d>4;sun 3 l>8;sun 1 a<3;mark 21;floor 6;rate 4");
         x.feed('s');
         x.act(3, 2, 1);
         return x;
@@ -208,6 +208,7 @@ public final class DayTests {
             }
             y.day();
         }
+        CHECK.holds("13: TOWN was more in these", x.on(40, 2) > 0);
         due("13: on(41, 0)", x.on(41, 0), -10002);
         due("13: on(-1, 14)", x.on(-1, 14), -10002);
         for (int what : new int[] {-1, 3, 9, 15, 16, Integer.MIN_VALUE, Integer.MAX_VALUE}) {

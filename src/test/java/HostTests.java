@@ -49,6 +49,9 @@ public final class HostTests {
         due("33: at the end", x.judge(0, 5), 100);
         due("33: beyond the end", x.judge(0, Integer.MAX_VALUE), 100);
         CHECK.holds("33: what is asked changes nothing", Check.standing(x).equals(before));
+        x.tape(3, 2, 3);
+        due("33: from the first on", x.shift(0, 2, 3, 0, 3), 3);
+        due("33: from the first on", x.judge(3, 0), -5);
         x.item(0, 3, -10);
         x.item(0, 4, 0);
         due("33: ends behind two", x.judge(0, 3), 102);
@@ -129,6 +132,8 @@ public final class HostTests {
         due("35: the third account is gone", x.of(2, 0), -10001);
         due("35: AREA", x.told(12), 10);
         due("35: ROW", x.on(4, 10), row);
+        due("35: ROW for 0", x.row(0, 0, 5), 5);
+        due("35: ROW for 2", x.row(0, 2, 0), 0);
         due("35: SEEN", x.hidden(1, 0), hidden);
         due("35: PLAN", x.count(3), 1);
         due("35: BOOK", x.count(4), 1);
@@ -287,6 +292,9 @@ public final class HostTests {
             due("40: its end", x.item(sort, 60, 1), -13);
             due("40: tape", x.tape(sort, sort, 60), 1);
             due("40: all 0", x.read(sort, 59), 0);
+            x.item(sort, 0, 1);
+            due("40: tape", x.tape(sort, sort, 1), 1);
+            due("40: all 0", x.read(sort, 0), 0);
         }
         due("40: none at all", x.tape(5, 2, 0), 1);
         due("40: it has no place", x.item(5, 0, 0), -13);

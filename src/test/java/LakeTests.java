@@ -215,6 +215,16 @@ public final class LakeTests {
         due("8: the level", x.told(3), 0);
         x.water(10);
         due("8: the level", x.told(3), 1);
+        for (int s = 0; s < 6; s++) {
+            x.area(s, 1);
+        }
+        due("8: the level of 10, 1 a mark", x.told(3), 10);
+        x.water(9);
+        due("8: the level of 9, 1 a mark", x.told(3), 9);
+        x.water(59);
+        due("8: the level of 59, 1 a mark", x.told(3), 59);
+        x.water(61);
+        due("8: the level of 61, 1 a mark", x.told(3), 60);
     }
 
     private static void promise9() {
@@ -294,6 +304,10 @@ public final class LakeTests {
         fault("mark", 4);
         fault("mark ", 5);
         fault("mark x", 5);
+        fault("mark :", 5);
+        fault("mark 1:", 6);
+        fault("mark /", 5);
+        fault("mark 1/", 6);
         fault("mark 1 ", 6);
         fault("mark 1 d=1", 6);
         fault("mark 123", 7);
@@ -322,6 +336,23 @@ public final class LakeTests {
         due("10: springs together", x.told(7), 82);
         due("10: 100 bytes", Check.law(x, "spring 1 " + "d=1|".repeat(22) + "m=0"), 3);
         due("10: SPRING of 100 bytes", x.told(7), 6);
+        x.account(0, 0, 0);
+        due("10: ten suns", Check.law(x, "sun 1 d=0" + ";sun 1 d=0".repeat(9)), 4);
+        due("10: ten suns", x.of(0, 7), 10);
+        Check.law(x, "rate 7;mark 9;floor 8;sun 9 d=0;spring 9 d=0;x");
+        due("10: nothing is left of a wrong one", Check.law(x, "spring 2 d>0"), 5);
+        due("10: RATE", x.told(6), 0);
+        due("10: MARK", x.told(4), 50);
+        due("10: FLOOR", x.told(5), 5);
+        due("10: SPRING", x.told(7), 5);
+        due("10: SUN", x.of(0, 7), 0);
+        x = new LakeBooks();
+        for (int i = 0; i < 5; i++) {
+            due("10: a long wrong one", Check.law(x, "spring 1 " + "d=0|".repeat(22) + "d=x"), -109);
+        }
+        due("10: nothing is left of long wrong ones", Check.law(x, "spring 1 d=1|d=0"), 0);
+        due("10: SPRING", x.told(7), 6);
+        x = new LakeBooks();
         due("10: 100 bytes that end too early", Check.law(x, "spring 11 " + "d=1|".repeat(22) + "d<"), -110);
     }
 

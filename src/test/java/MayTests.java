@@ -130,6 +130,17 @@ public final class MayTests {
         x.area(0, 18);
         due("21: none is enough", x.wells(1), -5);
         due("21: a second day is too late", x.wells(2), -5);
+        x.area(0, 20);
+        x.water(15);
+        due("21: 100 is none", x.wells(1), -5);
+        due("21: what is asked next knows no well", x.on(1, 0), 20);
+        x.water(16);
+        due("21: 99", x.wells(1), 99);
+        due("21: what is asked next knows no well", x.dry(), 0);
+        due("21: what is asked next knows no well", x.lowest(1), 0);
+        due("21: what is asked next knows no well", x.on(2, 0), 26);
+        x.area(0, 18);
+        x.water(0);
         Check.law(x, "spring 4 d=0");
         due("21: 99", x.wells(1), 99);
         due("21: 99 on each day", x.wells(10), 99);

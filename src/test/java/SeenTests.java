@@ -112,6 +112,8 @@ public final class SeenTests {
         LakeBooks x = new LakeBooks();
         due("27: never", x.odds(20, 0), 0);
         due("27: never", x.odds(20, 1), 1);
+        due("27: what is asked next has its springs", x.on(20, 0), 300);
+        due("27: what is asked next has its springs", x.on(40, 0), 400);
         x.water(55);
         String before = Check.standing(x);
         due("27: odds(1, 0)", x.odds(1, 0), 1);
