@@ -20,6 +20,15 @@ final class Check {
         due(what, so ? 1 : 0, 1);
     }
 
+    /** Texts alike; where they are not, from where on. */
+    void same(String what, String got, String want) {
+        int i = 0;
+        while (i < got.length() && i < want.length() && got.charAt(i) == want.charAt(i)) {
+            i++;
+        }
+        holds(what + " (else from sign " + i + " on)", got.equals(want));
+    }
+
     void end() {
         System.out.println(name + ": " + passed + " passed, " + failed + " failed");
         if (failed > 0 || passed == 0) {
