@@ -68,6 +68,25 @@ public final class SeenEdgeTests {
             x.see(n, level - 1);
             due("26: one less behind " + n, x.whose(), 0);
         }
+        LakeBooks later = lake(200, 0);
+        for (int day = 0; day < 6; day++) {
+            later.day();
+        }
+        later.see(4, 25);
+        due("26: told on day 6, behind 4 more", later.whose(), 1);
+        later.day();
+        later.day();
+        due("26: asked on day 8, behind 4 more", later.whose(), 0);
+        later.see(-1, 0);
+        later.see(0, 24);
+        due("26: told on day 8, now", later.whose(), 1);
+        LakeBooks low = lake(0, 0);
+        low.area(0, 20);
+        for (int level = 0; level <= 20; level++) {
+            low.see(-1, 0);
+            low.see(20, level);
+            due("26: level " + level + " behind 20, being 5", low.whose(), level == 5 ? 1 : 0);
+        }
         LakeBooks x = lake(0, 0);
         x.see(0, 0);
         due("26: the least level", x.whose(), 1);

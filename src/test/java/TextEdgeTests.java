@@ -20,7 +20,10 @@ public final class TextEdgeTests {
         for (String marked : MARKED) {
             prefixes(marked);
             wrongSigns(marked.replace("`", ""));
+            oneSignOff(marked.replace("`", ""));
         }
+        nothingBetween();
+        nothingIsLeft();
         emptyAndFull();
         clauses();
         nests();
@@ -45,14 +48,40 @@ public final class TextEdgeTests {
         CHECK.due("39: LAWS behind " + text, x.count(1), due == 0 ? 1 : 0);
     }
 
-    /** A text that ends too early has its fault at its end. */
+    /** A text that ends too early has its fault at its end, whatever longer text was read ahead of it. */
     private static void prefixes(String marked) {
+        String whole = marked.replace("`", "");
         StringBuilder text = new StringBuilder();
         for (int i = 0; i < marked.length(); i++) {
             boolean ends = i + 1 < marked.length() && marked.charAt(i + 1) == '`';
             if (marked.charAt(i) != '`') {
                 text.append(marked.charAt(i));
                 law(text.toString(), ends ? 0 : -10 - text.length());
+                LakeBooks x = new LakeBooks();
+                CHECK.due("10: a longer text", Check.law(x, whole + "x"), -10 - whole.length());
+                CHECK.due("10: " + text + " behind " + whole, Check.law(x, text.toString()),
+                    ends ? 0 : -10 - text.length());
+            }
+        }
+    }
+
+    /** Of wrong texts nothing is left, however many were read and however long: not of what holds, nor of what not. */
+    private static void nothingIsLeft() {
+        for (int wrongs = 0; wrongs < 6; wrongs++) {
+            for (int other = 0; other <= 1; other++) {
+                LakeBooks x = new LakeBooks();
+                x.account(0, 0, 0);
+                for (int wrong = 0; wrong < wrongs; wrong++) {
+                    String text = "mark 7;rate 8;sun 1 " + ("d=" + other + "|").repeat(19) + "d=" + other + "x";
+                    CHECK.due("10: " + text, Check.law(x, text), -10 - 99);
+                }
+                String test = " d=" + (1 - other);
+                CHECK.due("10: a law behind " + wrongs, Check.law(x, "spring 10" + test + ";sun 20" + test), 0);
+                CHECK.due("10: SPRING behind " + wrongs, x.told(7), other == 1 ? 15 : 5);
+                CHECK.due("10: SUN behind " + wrongs, x.of(0, 7), other == 1 ? 20 : 0);
+                CHECK.due("10: MARK behind " + wrongs, x.told(4), 50);
+                CHECK.due("10: FLOOR behind " + wrongs, x.told(5), 5);
+                CHECK.due("10: RATE behind " + wrongs, x.told(6), 0);
             }
         }
     }
@@ -65,6 +94,43 @@ public final class TextEdgeTests {
                 law(text.substring(0, p) + wrong + rest, -10 - p);
             }
         }
+    }
+
+    /** One sign less, one more, or another: where the fault is then is told by the pattern that the Model has. */
+    private static void oneSignOff(String text) {
+        String signs = "sdmlakbe<=>09!()&|; ";
+        for (int p = 0; p <= text.length(); p++) {
+            for (int i = 0; i < signs.length(); i++) {
+                byPattern(text.substring(0, p) + signs.charAt(i) + text.substring(p));
+                if (p < text.length()) {
+                    byPattern(text.substring(0, p) + signs.charAt(i) + text.substring(p + 1));
+                }
+            }
+            if (p < text.length()) {
+                byPattern(text.substring(0, p) + text.substring(p + 1));
+            }
+        }
+    }
+
+    private static void byPattern(String text) {
+        int fault = Model.fault(text);
+        CHECK.due("10: law() of " + text, Check.law(new LakeBooks(), text), fault < 0 ? 0 : -10 - fault);
+    }
+
+    /** What must stand between two parts. */
+    private static void nothingBetween() {
+        law("mark 1mark 2", -10 - 6);
+        law("mark 12mark 2", -10 - 7);
+        law("sun 1 d=1sun 1 d=1", -10 - 9);
+        law("sun 1 d=12sun 1 d=1", -10 - 10);
+        law("mark 1 mark 2", -10 - 6);
+        law("mark 1,mark 2", -10 - 6);
+        law("sun 1 d=1d=1", -10 - 9);
+        law("sun 1 d=1!d=1", -10 - 9);
+        law("sun 1 (d=1)(d=1)", -10 - 11);
+        law("sun 1 (d=1)d=1", -10 - 11);
+        law("sun 1 d=1(d=1)", -10 - 9);
+        law("sun 1 (d=1)sun 1 d=1", -10 - 11);
     }
 
     private static void emptyAndFull() {
